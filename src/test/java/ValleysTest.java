@@ -116,6 +116,8 @@ public final class ValleysTest {
         fault("shy 1 p!1", 7);
         fault("shy 1 p==1", 8);
         fault("shy 1 a=1", 6);
+        fault("shy 1 =1", 6);
+        fault("shy 1 p1", 7);
         fault("shy 1 P=1", 6);
         fault("shy 1 5=p", 6);
         fault("shy 1 p=p", 8);
@@ -164,6 +166,8 @@ public final class ValleysTest {
         well(ten);
         fault(ten + ";", 79);
         fault(ten + ";nerve 1", 79);
+        well("shy 1 p=1;".repeat(9) + "bold 9 p=1");
+        fault("shy 1 p=1;".repeat(10), 99);
         fault("nerve 1;", 8);
         fault("nerve 1;;nerve 1", 8);
         fault("nerve 1; nerve 1", 8);
@@ -278,6 +282,9 @@ public final class ValleysTest {
         mouths("shy 9 p<9;bold 3 p<9", 0, 0, 0, 0);
         mouths("shy 9 p<9;bold 10 p<9", 0, 2, 2, 2);
         mouths("shy 1 p=1;nerve 50;bold 0 p=0", 0, 1, 0, 1);
+        // each of ten clauses counts
+        mouths("shy 1 p=1;".repeat(9) + "bold 9 p=1", 0, 1, 1, 1);
+        mouths("bold 9 p=1;" + "shy 1 p=1;".repeat(8) + "shy 0 p=1", 0, 1, 2, 1);
         AuntsInTurn x = three("bold 5 p<9");
         Check.valley(x, "shy 1 p=0");
         check.due("only the newest holds", x.says(0, 0, 1), 0);
