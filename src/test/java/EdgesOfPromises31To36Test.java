@@ -70,6 +70,19 @@ public final class EdgesOfPromises31To36Test {
     }
 
     @Edge(of = "Promise 32: trace", says = "THE TRACE's i-th body. NONE.")
+    static void traceOfTheBodiesAsTheyBegan() {
+        int[][] rows = {{0, 2, 3, 2, 1}, {1, 2, 3, 2, 11, 1}, {2, 2, 3, 21, 2, 1}, {3, 2, 31, 3, 2, 1}, {4, 2, 41, 3, 2, 11, 1, 11, 1},
+            {5, 2, 3, 21, 2, 51, 1}, {6, 2, 31, 3, 61, 2, 1}};
+        for (int[] row : rows) {
+            AuntsInTurn x = played("aunt " + row[0] + " 4 0", "act 0 " + row[1] + " 5");
+            for (int i = 2; i < row.length; i++) {
+                Edges.due("body " + (i - 2) + " of KIND " + row[0], x.trace(i - 2), row[i]);
+            }
+            Edges.due("behind the last of KIND " + row[0], x.trace(row.length - 2), Edges.NONE);
+        }
+    }
+
+    @Edge(of = "Promise 32: trace", says = "THE TRACE's i-th body. NONE.")
     static void traceThatThereIsNotChangesNothing() {
         Edges.range(Edges.NONE, 0, 4, "trace(n)", (x, n) -> x.trace(n));
         Edges.due("no more than five ran", Scenes.some().count(7), 5);
@@ -185,6 +198,19 @@ public final class EdgesOfPromises31To36Test {
         Edges.due("a sixth row of SAID", y.say(0, 0), Edges.FULL);
         Edges.due("a ninth row of the PLAN", y.plan(0, 0), Edges.FULL);
         Edges.due("a ninth row of BOOK", y.book(0, 0), Edges.FULL);
+    }
+
+    @Edge(of = "Promise 35: undo", says = UNDO)
+    static void undoOfRowsAndATapeWithOthersInTheirPlaces() {
+        AuntsInTurn x = Scenes.some();
+        x.image();
+        Edges.due("the tape is read", x.valley(), 1);
+        Played.on(x, "text nerve 99", "say -1 0", "say 1 1", "say 2 2", "plan -1 0", "plan 3 0", "plan 3 2", "plan 1 0", "plan 2 1",
+            "book -1 0", "book 1 1", "book 1 2");
+        Edges.due("undo", x.undo(), 4);
+        AuntsInTurn twin = Scenes.some();
+        twin.image();
+        Edges.same("after undo", x, twin);
     }
 
     private static final String COUNT = "0 AUNTS, 1 ASKERS, 2 VALLEYS, 3 rows of SAID, 4 of the PLAN, 5 rows of BOOK, 6 signs of THE TAPE, 7 bodies that ran in the latest act() (all, kept or not). NONE.";

@@ -15,14 +15,28 @@ public final class EdgesOfTerms1SaysTest {
         + "h how many FACTS are HEARD, l how many FACTS are LEFT, d the DAY modulo 10.";
 
     /** What the TEST's < = > tell where that which is looked at is n: of n - 1, n and n + 1. */
-    private static void compares(AuntsInTurn made, int aunt, int heard, char subject, int n) {
-        AuntsInTurn x = made;
-        // of each ten by its own digit of MOUTH, less the 1 that there is ahead of all
+    private static void compares(AuntsInTurn x, int aunt, int heard, char subject, int n) {
         for (int than = Math.max(0, n - 1); than <= n + 1; than++) {
-            String text = "bold 10 " + subject + "<" + than + ";bold 20 " + subject + "=" + than + ";bold 40 " + subject + ">" + than;
-            Edges.due("valley of " + text, Check.valley(x, text) >= 0 ? 1 : 0, 1);
-            int want = n < than ? 11 : n == than ? 21 : 41;
-            Edges.due(text + " where it is " + n, x.says(aunt, heard, 1), want);
+            compares(x, aunt, heard, subject, n, than);
+        }
+    }
+
+    /** Each of < = > has a bold of its own, so that MOUTH tells by which of them it holds. */
+    private static void compares(AuntsInTurn x, int aunt, int heard, char subject, int n, int than) {
+        String text = "bold 10 " + subject + "<" + than + ";bold 20 " + subject + "=" + than + ";bold 40 " + subject + ">" + than;
+        Edges.due("valley of " + text, Check.valley(x, text) >= 0 ? 1 : 0, 1);
+        int want = n < than ? 11 : n == than ? 21 : 41;
+        Edges.due(text + " where it is " + n, x.says(aunt, heard, 1), want);
+    }
+
+    @Edge(of = "Terms 1", says = "a TEST: p or k or v or h or l or d, one of < = >, a number likewise")
+    static void numbersOfATestFrom0To99() {
+        int[] are = {1, 2, 3, 4, 4, 6};
+        for (int i = 0; i < are.length; i++) {
+            for (int than : new int[] {0, 1, 9, 10, 11, 90, 98, 99}) {
+                AuntsInTurn x = played("aunt 0 0 0", "aunt 2 3 255", "pass 6");
+                compares(x, 1, 15, "pkvhld".charAt(i), are[i], than);
+            }
         }
     }
 
@@ -93,6 +107,39 @@ public final class EdgesOfTerms1SaysTest {
         }
         x.pass(39);
         return x;
+    }
+
+    /** Of parts that hold (v=1) and do not (v=2), in each way: MOUTH is 6 where the whole holds. */
+    @Edge(of = "Terms 1", says = "E: T, or T|E. T: F, or F&T. F: !F, (E), or a TEST")
+    static void jointsHoldByTheirParts() {
+        String[] hold = {"1", "!0", "!!1", "1&1", "1|1", "1|0", "0|1", "1&1&1", "0|0|1", "1|0|0", "0&0|1", "1|0&0", "1|1&0", "0&1|1",
+            "!0&1", "!0|0", "!1|1", "!(0)", "!(1&0)", "!(0|0)", "(1|1)&1", "1&(0|1)", "(0|1)&(1|0)", "(((((1)))))", "!!!!1", "!(!(!0))",
+            "!(1&!(0|!0))|1", "0|(1&(0|(1&(0|(1)))))"};
+        String[] holdNot = {"0", "!1", "!!0", "1&0", "0&1", "0&0", "0|0", "1&1&0", "0&1&1", "0|0|0", "1&0|0", "0|1&0", "(1|1)&0",
+            "0&(1|1)", "!1&0", "!1|0", "!0&0", "!(1)", "!(1|0)", "!(1&1)", "(((((0)))))", "!!!!!1", "!(!(!1))", "1&(0|(1&(0|(1&(0)))))"};
+        for (String parts : hold) {
+            mouthBy(parts, 6);
+        }
+        for (String parts : holdNot) {
+            mouthBy(parts, 1);
+        }
+    }
+
+    private static void mouthBy(String parts, int mouth) {
+        String text = "bold 5 " + parts.replace("1", "v=1").replace("0", "v=2");
+        AuntsInTurn x = played("aunt 0 1 255", "text " + text, "valley");
+        Edges.due("VALLEYS by " + text, x.count(2), 1);
+        Edges.due("MOUTH by " + text, x.says(0, 0, 1), mouth);
+    }
+
+    @Edge(of = "Terms 1", says = "CLAUSES, 1 to 10")
+    static void eachOfTenClausesHoldsByItsOwnParts() {
+        AuntsInTurn x = played("aunt 0 1 255", "text bold 9 v=1;shy 1 v=1;shy 1 v=2;shy 1 v=1;shy 1 v=2;shy 1 v=2;shy 1 v=1;shy 1 v=2;"
+            + "shy 1 v=0;shy 1 v>0", "valley");
+        Edges.due("VALLEYS", x.count(2), 1);
+        Edges.due("MOUTH", x.says(0, 0, 1), 6);
+        Played.on(x, "text bold 1 !v=1|v=1&!v=2;bold 4 !(v=2|v=1)", "valley");
+        Edges.due("MOUTH by the first of two", x.says(0, 0, 1), 2);
     }
 
     @Edge(of = "Terms 1", says = "LEFT of an AUNT by what is HEARD: the FACTS she KNOWS that are not HEARD.")

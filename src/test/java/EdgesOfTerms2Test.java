@@ -573,6 +573,23 @@ public final class EdgesOfTerms2Test {
         Edges.due("AWAY as it was", x.told(2), 2);
     }
 
+    /** The same number tells an AUNT by 1 and 2, an ASKER by 3, and nothing by 0. */
+    @Edge(of = "Terms 2", says = PLAN)
+    static void oneNumberIsAnAuntsOrAnAskers() {
+        AuntsInTurn x = played("aunt 0 0 1", "aunt 0 0 2", "asker", "asker", "pass 2");
+        done(x, 0, 2);
+        // nobody begins anew by what is told of AUNTS and of DAYS
+        for (String row : new String[] {"plan 1 0", "plan 2 1", "plan 1 1", "plan 2 0", "plan 0 0", "plan 0 1"}) {
+            Played.on(x, row);
+            done(x, 0, 2);
+        }
+        x.plan(3, 1);
+        done(x, 0, 1);
+        Played.on(x, "plan -1 0", "plan 3 0");
+        done(x, 0, 1);
+        Edges.due("AWAY as it was", x.told(2), 0);
+    }
+
     @Edge(of = "Terms 2", says = "DONE: how many are BACK; how many are THROUGH.")
     static void doneByNoRowsIsAsNow() {
         done(new AuntsInTurn(), 0, 0);
@@ -644,6 +661,9 @@ public final class EdgesOfTerms2Test {
         // PIOUS: (min - 1) * 3 is max * 3, that is max - 2; rings max, asks max - 4, warns -10; and rings(2) 8
         act(4, 2, min, -2);
         act(5, 0, max, (min + 1) ^ 2);
+        // i is 2: 3 + 2 is 5, without the 2 of it 7 and with the 2 that is there already 4
+        act(5, 0, 3, 7);
+        act(5, 0, 4, 4);
         act(6, 1, max, min + 1);
     }
 
