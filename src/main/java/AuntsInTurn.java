@@ -35,7 +35,7 @@ public final class AuntsInTurn {
         if (now.valleys.size() >= VALLEYS_TOP) {
             return FULL;
         }
-        Valley read = new Valley(Arrays.copyOf(now.tape, now.signs));
+        Valley read = new Valley(Arrays.copyOf(now.tape, Math.max(0, now.signs)));
         now.signs = 0;
         int fault = read.fault();
         if (fault != NONE) {

@@ -41,7 +41,7 @@ final class Edges {
             }
             check.due(test + "looks at something", check.asked() > before ? 1 : 0, 1);
         }
-        System.out.println(tests.size() + " tests of boundary cases");
+        System.out.println(tests.size() + " tests");
         check.end();
     }
 

@@ -180,6 +180,22 @@ public final class EdgesOfTerms2Test {
     }
 
     @Edge(of = "Terms 2", says = CLIMB)
+    static void climbPastTheFirstOrTheLastWhoIsAway() {
+        AuntsInTurn x = played("aunt 0 0 1", "aunt 0 0 2", "aunt 0 0 4", "weigh 0 2", "weigh 1 3", "weigh 2 4", "away 0 true");
+        climb(x, 0, 0, 6, 7, -5);
+        climb(x, 1, 0, 6, 7, -5);
+        Played.on(x, "away 0 false", "away 2 true");
+        climb(x, 0, 0, 3, 5, -5);
+        climb(x, 1, 0, 3, 5, -5);
+        Played.on(x, "text nerve 2", "valley");
+        climb(x, 0, 0, 3, 5, 1);
+        climb(x, 1, 0, 2, 3, 1);
+        x.away(1, true);
+        climb(x, 0, 0, 1, 2, -5);
+        climb(x, 1, 0, 1, 2, -5);
+    }
+
+    @Edge(of = "Terms 2", says = CLIMB)
     static void climbIsOnThisDay() {
         AuntsInTurn x = played("aunt 6 0 15", "aunt 6 0 15", "row 0 0 1", "row 1 0 2", "row 0 1 4", "row 1 1 8", "text shy 1 p<9", "valley");
         climb(x, 0, 0, 3, 2, -5);

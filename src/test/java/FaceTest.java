@@ -1,14 +1,18 @@
+import java.io.IOException;
 import java.lang.reflect.Constructor;
 import java.lang.reflect.Field;
 import java.lang.reflect.Member;
 import java.lang.reflect.Method;
 import java.lang.reflect.Modifier;
+import java.nio.file.Files;
+import java.nio.file.Path;
 import java.util.ArrayList;
 import java.util.List;
 import java.util.TreeSet;
 
 /** The public face is the document's, and nothing more of the class is to be seen. */
 public final class FaceTest {
+    private static final Path SOURCE = Path.of("src/main/java/AuntsInTurn.java");
     private static final String[] METHODS = {
         "int feed(int)", "int valley()", "int aunt(int, int, int)", "int of(int, int)", "int says(int, int, int)",
         "int row(int, int, int)", "int learn(int, int)", "int away(int, boolean)", "int weigh(int, int)",
@@ -20,7 +24,7 @@ public final class FaceTest {
         "int count(int)",
     };
 
-    public static void main(String[] args) {
+    public static void main(String[] args) throws IOException {
         Check check = new Check();
         check.due("NONE", AuntsInTurn.NONE, -1);
         check.due("BAD", AuntsInTurn.BAD, -2);
@@ -34,7 +38,34 @@ public final class FaceTest {
         check.due("constructors", seenConstructors(), 1);
         noPrivateNamesake(check);
         nestedAreHidden(check);
+        asTheDocumentSays(check);
         check.end();
+    }
+
+    /** Line by line, in the same order, names of arguments and all; each promise is of a call of the face. */
+    private static void asTheDocumentSays(Check check) throws IOException {
+        List<String> seen = new ArrayList<>();
+        for (String line : Files.readAllLines(SOURCE)) {
+            if (line.trim().startsWith("public ")) {
+                seen.add(line.trim().replaceAll(" \\{$", ";"));
+            }
+        }
+        List<String> face = new ArrayList<>();
+        for (String line : Doc.face()) {
+            if (line.trim().startsWith("public ")) {
+                face.add(line.trim().replaceAll(" \\{$", ";"));
+            }
+        }
+        check.due("lines of the face", face.isEmpty() ? seen.size() : face.size(), seen.size());
+        for (int i = 0; i < Math.min(face.size(), seen.size()); i++) {
+            check.due(face.get(i) + " and not " + seen.get(i), face.get(i).equals(seen.get(i)) ? 1 : 0, 1);
+        }
+        Doc.parts().forEach((part, text) -> {
+            if (part.startsWith("Promise ")) {
+                String call = text.substring(1, text.indexOf("`: "));
+                check.due(part + " is of a call of the face", seen.contains("public " + call + ";") ? 1 : 0, 1);
+            }
+        });
     }
 
     private static void same(Check check, TreeSet<String> got, TreeSet<String> want) {

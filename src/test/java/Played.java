@@ -17,14 +17,19 @@ final class Played {
                     call(x, "feed", (int) sign);
                 }
             } else {
-                String[] words = call.split(" ");
-                Object[] args = new Object[words.length - 1];
-                for (int i = 0; i < args.length; i++) {
-                    args[i] = argument(words[i + 1]);
-                }
-                call(x, words[0], args);
+                one(x, call);
             }
         }
+    }
+
+    /** What the call answers. */
+    static long one(Object x, String call) {
+        String[] words = call.split(" ");
+        Object[] args = new Object[words.length - 1];
+        for (int i = 0; i < args.length; i++) {
+            args[i] = argument(words[i + 1]);
+        }
+        return call(x, words[0], args);
     }
 
     private static Object argument(String word) {
