@@ -1,3 +1,6 @@
+import java.util.HashMap;
+import java.util.Map;
+
 /** Boundary cases of the first part of the Terms: what text is a VALLEY, where its FAULT is, and which one holds. */
 public final class EdgesOfTerms1ValleysTest {
     private static final String DIGITS = "0123456789", PARTS = "!(pkvhld";
@@ -296,6 +299,40 @@ public final class EdgesOfTerms1ValleysTest {
         Edges.fault(of99 + "p", 100);
         Edges.fault(of99, 99);
         Edges.fault("x".repeat(100), 0);
+    }
+
+    /** Whether something is a VALLEY that begins so: what may be missing is the end of a clause, and some ). */
+    private static boolean goesOn(String beginning) {
+        for (String clause : new String[] {"nerve 1", "bold 1 p<1", "shy 1 p<1"}) {
+            for (int from = 0; from <= clause.length(); from++) {
+                for (int open = 0; open <= 5; open++) {
+                    if (Edges.valley(beginning + clause.substring(from) + ")".repeat(open)) == 0) {
+                        return true;
+                    }
+                }
+            }
+        }
+        return false;
+    }
+
+    @Edge(of = "Terms 1", says = "FAULT: the place of the first byte with which no VALLEY can go on (the size, if it ends too early).")
+    static void whatIsAheadOfTheFaultGoesOnAndWithItNothingDoes() {
+        Map<String, Boolean> goesOn = new HashMap<>();
+        for (String text : new String[] {"nerve 5;bold 12 p=0&!(h<2|k>3)", "shy 1 !((v=1)&d>0);nerve 0"}) {
+            for (int at = 0; at <= text.length(); at++) {
+                for (char sign : "nbs 01p<&|!();x".toCharArray()) {
+                    String changed = text.substring(0, at) + sign + text.substring(Math.min(text.length(), at + sign % 2));
+                    int answer = Edges.valley(changed);
+                    int fault = answer == 0 ? changed.length() : -10 - answer;
+                    boolean ahead = goesOn.computeIfAbsent(changed.substring(0, fault), EdgesOfTerms1ValleysTest::goesOn);
+                    Edges.due("'" + changed + "' goes on ahead of " + fault, ahead ? 1 : 0, 1);
+                    if (fault < changed.length()) {
+                        boolean with = goesOn.computeIfAbsent(changed.substring(0, fault + 1), EdgesOfTerms1ValleysTest::goesOn);
+                        Edges.due("'" + changed + "' goes on with " + fault, with ? 1 : 0, 0);
+                    }
+                }
+            }
+        }
     }
 
     @Edge(of = "Terms 1", says = "At most 5 of ! and ( are open (a ( till its ) , a ! till its F ends).")
