@@ -201,6 +201,22 @@ public final class EdgesOfPromises31To36Test {
     }
 
     @Edge(of = "Promise 35: undo", says = UNDO)
+    static void undoOfEachKindWithHerNumberAndV() {
+        for (int kind = 0; kind <= 6; kind++) {
+            AuntsInTurn x = played("aunt 0 1 0", "aunt 0 1 0", "aunt " + kind + " 7 9", "text bold 4 p=2", "valley", "image");
+            int[] acts = {x.act(2, 0, 5), x.act(2, 1, 5), x.act(2, 2, 5)};
+            Edges.due("undo", x.undo(), 3);
+            Edges.due("KIND", x.of(2, 0), kind);
+            Edges.due("v", x.of(2, 1), 7);
+            Edges.due("KNOWS", x.of(2, 2), 9);
+            Edges.due("MOUTH by her number", x.says(2, 0, 1), 5);
+            for (int act = 0; act < 3; act++) {
+                Edges.due("act " + act + " of KIND " + kind, x.act(2, act, 5), acts[act]);
+            }
+        }
+    }
+
+    @Edge(of = "Promise 35: undo", says = UNDO)
     static void undoOfRowsAndATapeWithOthersInTheirPlaces() {
         AuntsInTurn x = Scenes.some();
         x.image();

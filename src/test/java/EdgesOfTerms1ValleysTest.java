@@ -352,6 +352,18 @@ public final class EdgesOfTerms1ValleysTest {
     }
 
     @Edge(of = "Terms 1", says = "At most 5 of ! and ( are open (a ( till its ) , a ! till its F ends).")
+    static void fiveOpenBehindJointsAndNotSix() {
+        for (String joint : new String[] {"p=1|", "p=1&", "p=1|p=1|p=1|", "p=1&p=1&p=1&", "!p=1|(p=1)&", "!!!p=1|!!!p=1&(((p=1)))|"}) {
+            Edges.well("shy 1 " + joint + "!!!!!p=1");
+            Edges.well("shy 1 " + joint + "(((((p=1)))))");
+            Edges.fault("shy 1 " + joint + "!!!!!!p=1", 11 + joint.length());
+            Edges.fault("shy 1 " + joint + "((((((p=1))))))", 11 + joint.length());
+            Edges.well("shy 1 (" + joint + "!!!!p=1)");
+            Edges.fault("shy 1 !(" + joint + "!(!!p=1))", 11 + joint.length());
+        }
+    }
+
+    @Edge(of = "Terms 1", says = "At most 5 of ! and ( are open (a ( till its ) , a ! till its F ends).")
     static void whatIsClosedIsNotOpen() {
         Edges.well("shy 1 !!!!!p=1&!!!!!p=1|!!!!!p=1");
         Edges.well("shy 1 (((((p=1)))))&(((((p=1)))))");

@@ -106,6 +106,17 @@ public final class EdgesOfTerms2Test {
         }
     }
 
+    @Edge(of = "Terms 2", says = "ON n DAYS (0 .. 60): how many are BACK; what one HEARD; its PLACE; its SHOCK.")
+    static void onDaysSheSaysByHerNumberKindAndV() {
+        int[] heard = {7, 7, 7, 224, 7, 7, 224};
+        for (int kind = 0; kind <= 6; kind++) {
+            AuntsInTurn x = played("aunt 0 7 0", "aunt " + kind + " 7 231", "asker", "text bold 2 p=1&v=7&k=" + kind, "valley");
+            Edges.due("HEARD of KIND " + kind, x.on(2, 10), heard[kind]);
+            Edges.due("COMES past KIND " + kind, x.at(0, 4), heard[kind]);
+            Edges.due("SHOCK of KIND " + kind, x.on(2, 30), 3);
+        }
+    }
+
     private static final String COMES = "COMES of one: what it HEARD when it is THROUGH, going on day by day (-5: it is BACK ahead of that, or now).";
 
     @Edge(of = "Terms 2", says = COMES)
@@ -419,6 +430,20 @@ public final class EdgesOfTerms2Test {
 
     private static final String FIRM = "FIRM of one: how many numbers v (0 .. 9) likewise; the least (-5: none).";
 
+    @Edge(of = "Terms 2", says = KNEW)
+    static void knewOfHerByHerNumberKindAndV() {
+        // MOUTH is 3 of AUNT 2 with v 7 alone; of KIND, what is SAID, how many sets, the least
+        int[][] rows = {{0, 7, 32, 7}, {1, 7, 32, 7}, {2, 7, 32, 7}, {3, 224, 32, 224}, {4, 7, 32, 7}, {5, 7, 33, 6}, {6, 224, 32, 224}};
+        for (int[] row : rows) {
+            AuntsInTurn x = played("aunt 0 7 1", "aunt 0 7 1", "aunt " + row[0] + " 7 9", "text bold 2 p=2&v=7&k=" + row[0], "valley");
+            x.say(0, row[1]);
+            Edges.due("how many of KIND " + row[0], x.knew(2, 0), row[2]);
+            Edges.due("the least of KIND " + row[0], x.knew(2, 1), row[3]);
+            Edges.due("of one who has MOUTH 1", x.knew(1, 0), 0);
+            Edges.due("she KNOWS as before", x.of(2, 2), 9);
+        }
+    }
+
     private static void firm(AuntsInTurn x, int many, int least) {
         Edges.due("FIRM: how many", x.firm(0, 0), many);
         Edges.due("FIRM: the least", x.firm(0, 1), least);
@@ -530,6 +555,23 @@ public final class EdgesOfTerms2Test {
         AuntsInTurn y = played("aunt 0 0 1", "weigh 0 5", "asker", "asker", "asker", "asker", "asker", "pass 1");
         Edges.due("of 25 by 5, above", y.mean(0), 5);
         Edges.due("of 25 by 5, below", y.mean(1), 1);
+    }
+
+    @Edge(of = "Terms 2", says = "MEAN: SHOCK of all ASKERS, together, by how many they are: a fraction in lowest terms (NO: there are none).")
+    static void meanOfTheMostShock() {
+        AuntsInTurn x = played("aunt 0 1 255", "text nerve 99;bold 7 p<9", "valley");
+        for (int fact = 0; fact < 8; fact++) {
+            x.weigh(fact, 9);
+        }
+        // of all FACTS, 72 each; of the last all but one, 63
+        long[] above = {72, 72, 72, 72, 351};
+        for (int i = 0; i < 5; i++) {
+            x.asker();
+            x.begin(i, i == 4 ? 1 : 0);
+            x.pass(1);
+            Edges.due("above the line of " + i, x.mean(0), above[i]);
+            Edges.due("below the line of " + i, x.mean(1), i == 4 ? 5 : 1);
+        }
     }
 
     private static final String PLAN = "PLAN told by hand: rows of what 0 a DAY goes (the other not looked at), 1 one of AUNTS is AWAY, 2 one is not, 3 one of ASKERS begins anew (PLACE 0, SHOCK 0, not BACK; HEARD stays); 8 at most.";
