@@ -165,6 +165,21 @@ public final class EdgesOfTerms1SaysTest {
         }
     }
 
+    @Edge(of = "Terms 1", says = "MOUTH of her by that: 1, and the n of all bold whose E holds, less those of all shy, together (0 at least).")
+    static void mouthByClausesOfSeveralTests() {
+        String text = "bold 3 p=0&v=1|h>7;shy 1 !(k=0&l<9)|h=2;bold 5 h=1&l=3;bold 2 v=1";
+        AuntsInTurn x = played("aunt 0 1 15", "aunt 0 2 15", "text " + text, "valley");
+        // by what is HEARD, MOUTH of the first (v 1) and of the second (v 2), and what they SAY by that
+        int[][] rows = {{0, 6, 1, 15, 1}, {1, 11, 6, 14, 14}, {16, 6, 1, 15, 1}, {3, 5, 0, 12, 0}, {17, 5, 0, 14, 0}, {7, 6, 1, 8, 8},
+            {240, 6, 1, 15, 1}, {255, 6, 4, 0, 0}};
+        for (int[] row : rows) {
+            for (int i = 0; i < 2; i++) {
+                Edges.due("MOUTH of " + i + " where " + row[0] + " is HEARD", x.says(i, row[0], 1), row[1 + i]);
+                Edges.due("SAYS of " + i + " where " + row[0] + " is HEARD", x.says(i, row[0], 2), row[3 + i]);
+            }
+        }
+    }
+
     /** An aunt of the KIND who knows FACTS 1, 2, 4, 5 and 7 and tells so many of them at once. */
     private static AuntsInTurn one(int kind, int v, int mouth) {
         String clause = mouth == 0 ? "shy 1 p=0" : "bold " + (mouth - 1) + " p=0";
