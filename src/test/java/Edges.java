@@ -6,7 +6,7 @@ import java.util.List;
 import java.util.function.Supplier;
 import java.util.function.ToLongFunction;
 
-/** What the tests of boundary cases share: each is a static method with an Edge, and is told by that. */
+/** What the tests of boundary cases and of other sentences share: each is a static method with an Edge, and is told by that. */
 final class Edges {
     static final int NONE = -1, BAD = -2, STATE = -3, FULL = -4, NOT_ANY = -5, OTHER_KIND = -6;
     static final long NO = Long.MIN_VALUE;
